@@ -232,10 +232,10 @@ public final class RingCounts {
     }
 
     public int peeled(int i, int what) {
-        if (i < 0 || i >= net.edges || what < 0 || what > 2) {
+        peeling.follow(net.near);
+        if (i < 0 || i >= peeling.edges || what < 0 || what > 2) {
             return NONE;
         }
-        peeling.follow(net.near);
         int pair = peeling.order[i];
         switch (what) {
             case 0:
@@ -264,8 +264,9 @@ public final class RingCounts {
         long sum = 0;
         for (int u = 0; u < VERTICES; u++) {
             for (int v = u + 1; v < VERTICES; v++) {
-                for (int w = v + 1; w < VERTICES; w++) {
-                    if (!net.joins(u, v) || !net.joins(v, w) || !net.joins(u, w)) {
+                long thirds = net.joins(u, v) ? net.near[u] & net.near[v] & above(v) : 0;
+                for (int w = v + 1; w < VERTICES && thirds != 0; w++) {
+                    if (!hasBit(thirds, w)) {
                         continue;
                     }
                     // Three WORTHS make 8 times 10 to the 18th at most: a product is always a long.
@@ -999,7 +1000,11 @@ public final class RingCounts {
         private long pieceOf(int v) {
             long piece = 1L << v;
             for (int steps = 1; steps < VERTICES; steps++) {
-                piece |= Counts.nearAny(left, piece);
+                long wider = piece | Counts.nearAny(left, piece);
+                if (wider == piece) {
+                    break;
+                }
+                piece = wider;
             }
             return piece;
         }

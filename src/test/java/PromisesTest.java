@@ -176,6 +176,9 @@ public final class PromisesTest {
         }
         due("the farthest", 39, path.two(0, 39, 4));
         due("the farthest", 39, path.two(39, 0, 4));
+        due("a path of all is one piece", 1, path.pieces(2));
+        due("and each edge a hood", 39, path.hoods(2));
+        due("and its core is 1", 1, path.of(20, 3));
         RingCounts star = net("+7,1;+7,2;+7,3;+7,4;+1,9;+2,9");
         due("shared over a heavy and a light one", 2, star.two(1, 2, 0));
         due("wedges over light ones alone", 1, star.two(1, 2, 1));
@@ -326,6 +329,19 @@ public final class PromisesTest {
         due("carried 12", 12, two.told(7));
     }
 
+    private static void heavyStaysByHalf() {
+        // SPAN 16 and BOUND 4: a degree of 2 is just no less than half of it.
+        RingCounts net = net("+9,1;+9,2;+9,3;+9,4;+20,21;+22,23;+24,25;+26,27");
+        due("heavy by rebasing", 1L << 9, net.told(5));
+        net.cut(1, 9);
+        net.cut(2, 9);
+        due("heavy with 2 of 4", 1L << 9, net.told(5));
+        due("no move", 0, net.told(6));
+        net.cut(3, 9);
+        due("light with 1 of 4, as the greater one", 0, net.told(5));
+        due("one move", 1, net.told(6));
+    }
+
     private static void spanShrinks() {
         RingCounts net = net("+0,1;+0,2;+0,3;+0,4;+0,5;+0,6;+0,7;+0,8");
         due("span", 16, net.told(3));
@@ -355,6 +371,27 @@ public final class PromisesTest {
         due("bound of 1", 1, net.told(4));
         due("changes", 20, net.told(9));
         due("rebases in all", 8, net.told(8));
+    }
+
+    /** Each of the calls that need TRUSSES is the first one to be asked behind a CHANGE. */
+    private static void eachPeelsAnew() {
+        due("truss first", 3, kite().edge(0, 1, 1));
+        due("turn first", 6, kite().edge(1, 3, 2));
+        due("truss first", 5, kite().truss(3));
+        due("pieces first", 2, kite().pieces(2));
+        due("hoods first", 3, kite().hoods(2));
+        due("hood first", 5, kite().hood(0, 1, 2));
+        due("peeled first", 38, kite().peeled(1, 0));
+        RingCounts net = kite();
+        due("truss 2", 7, net.truss(2));
+        net.cut(0, 1);
+        due("truss 2 behind a change", 6, net.truss(2));
+        due("truss 3 behind a change", 0, net.truss(3));
+        due("core ahead", 2, net.of(0, 3));
+        net.cut(0, 2);
+        due("core behind a change", 1, net.of(0, 3));
+        net.cut(0, 3);
+        due("core behind another change", 0, net.of(0, 3));
     }
 
     // 11, 12, 14
@@ -752,6 +789,8 @@ public final class PromisesTest {
         due("59 may", 59, net.told(10));
         due("back 60", 59, net.back(60));
         due("ten stay for good", 10, net.told(0));
+        checks.dueText("the first ten", "+0,2=0;+0,3;+0,4=2;+0,5=3;+0,6=4;+0,7=5;+0,8=6;+0,9=7;+0,10=8;+0,11=9",
+            Checks.spelled(net));
         due("none may", 0, net.back(1));
         due("the tenth stays", 9, net.worth(0, 11));
         due("the eleventh is gone", NO, net.worth(0, 12));
@@ -977,6 +1016,15 @@ public final class PromisesTest {
         due("undo", 7, net.undo());
         due("the paper is none of the image", paper, net.told(12));
         due("undo by the latest image", 1, net.two(9, 10, 3));
+        due("undo", 7, net.undo());
+        due("nine may go back by the image", 9, net.told(10));
+        due("back behind the image", 5, net.back(5));
+        Checks.batch(net, "+30,31;+32,33;+34,35;+36,37;+30,32;+33,34");
+        due("undo", 7, net.undo());
+        due("nine may go back", 9, net.told(10));
+        due("what goes back is the image's", 2, net.back(2));
+        due("9-10 went back", NO, net.worth(9, 10));
+        due("3-4 came back", 13, net.worth(3, 4));
         RingCounts other = new RingCounts();
         due("image of none", 0, other.image());
         other.add(1, 2, 3);
@@ -1033,7 +1081,9 @@ public final class PromisesTest {
         toldOfTheNet();
         heavyAndLight();
         bothEndsMove();
+        heavyStaysByHalf();
         spanShrinks();
+        eachPeelsAnew();
         trusses();
         hood();
         core();
