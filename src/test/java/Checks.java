@@ -1,28 +1,69 @@
+import java.io.IOException;
+import java.nio.charset.StandardCharsets;
+import java.nio.file.Files;
+import java.nio.file.Path;
+
 /** Counts what was asked and prints each answer that is not the one that is due. */
 final class Checks {
+    private static final Path DOCUMENT = Path.of("../shared/DOC.md");
+
     private final String name;
     private int asked = 0;
     private int wrong = 0;
+    private String document = null;
+    private String words = "";
+    private int askedByWords = 1;
 
     Checks(String name) {
         this.name = name;
     }
 
+    /** What is asked from here on is what these words of the document mean; words that none asks of are an error. */
+    void says(String newWords) {
+        if (askedByWords == 0) {
+            wrong++;
+            System.out.println(name + ": nothing was asked of '" + words + "'");
+        }
+        if (!document().contains(newWords.replaceAll("\\s+", " "))) {
+            wrong++;
+            System.out.println(name + ": the document doesn't say '" + newWords + "'");
+        }
+        words = newWords;
+        askedByWords = 0;
+    }
+
+    private String document() {
+        if (document == null) {
+            try {
+                document = Files.readString(DOCUMENT, StandardCharsets.UTF_8).replaceAll("\\s+", " ");
+            } catch (IOException e) {
+                throw new IllegalStateException(e);
+            }
+        }
+        return document;
+    }
+
+    private String told(String call) {
+        return name + ": " + (words.isEmpty() ? "" : "'" + words + "': ") + call;
+    }
+
     void due(String call, long want, long got) {
         asked++;
+        askedByWords++;
         if (want != got) {
             wrong++;
             if (wrong <= 50) {
-                System.out.println(name + ": " + call + " answered " + got + ", due is " + want);
+                System.out.println(told(call) + " answered " + got + ", due is " + want);
             }
         }
     }
 
     void dueText(String call, String want, String got) {
         asked++;
+        askedByWords++;
         if (!want.equals(got)) {
             wrong++;
-            System.out.println(name + ": " + call + " answered '" + got + "', due is '" + want + "'");
+            System.out.println(told(call) + " answered '" + got + "', due is '" + want + "'");
         }
     }
 
@@ -36,6 +77,10 @@ final class Checks {
 
     /** Ends the program with exit code 1, if one answer was not as due. */
     void end() {
+        if (askedByWords == 0) {
+            wrong++;
+            System.out.println(name + ": nothing was asked of '" + words + "'");
+        }
         System.out.println(name + ": " + asked + " asked, " + wrong + " wrong");
         if (wrong != 0 || asked == 0) {
             System.exit(1);
@@ -74,6 +119,38 @@ final class Checks {
             bits |= 1L << v;
         }
         return bits;
+    }
+
+    /** A new net behind the BATCHES, part by part. */
+    static RingCounts net(String batch) {
+        RingCounts net = new RingCounts();
+        for (String part : batch.split(";")) {
+            batch(net, part);
+        }
+        return net;
+    }
+
+    /** VERTICES 0 .. n - 1, each two joined. */
+    static RingCounts whole(int n) {
+        RingCounts net = new RingCounts();
+        for (int u = 0; u < n; u++) {
+            for (int v = u + 1; v < n; v++) {
+                net.add(u, v, 1);
+            }
+        }
+        return net;
+    }
+
+    /** What the net is, told by few calls: so that it can be looked at twice within 512. */
+    static String lookAt(RingCounts net) {
+        StringBuilder look = new StringBuilder();
+        for (int what = 0; what < 14; what++) {
+            look.append(net.told(what)).append(' ');
+        }
+        for (int u = 0; u < 40; u++) {
+            look.append(net.near(u)).append(' ');
+        }
+        return look.append(net.picked()).append(' ').append(net.value()).toString();
     }
 
     /** All that can be asked without an argument of its own, in one text: to see that nothing was changed. */

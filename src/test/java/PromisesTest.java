@@ -11,22 +11,11 @@ public final class PromisesTest {
     }
 
     private static RingCounts net(String batch) {
-        RingCounts net = new RingCounts();
-        for (String part : batch.split(";")) {
-            Checks.batch(net, part);
-        }
-        return net;
+        return Checks.net(batch);
     }
 
-    /** VERTICES 0 .. n - 1, each two joined. */
     private static RingCounts whole(int n) {
-        RingCounts net = new RingCounts();
-        for (int u = 0; u < n; u++) {
-            for (int v = u + 1; v < n; v++) {
-                net.add(u, v, 1);
-            }
-        }
-        return net;
+        return Checks.whole(n);
     }
 
     /** Two TRIANGLES on the EDGE of 0 and 1, a tail from 3 to 4, another piece of 38 and 39. */
