@@ -361,8 +361,8 @@ public final class TextSentencesTest {
     }
 
     private static void letters() {
-        says("Letters: n the number of the VERTEX, d its DEGREE, t how many TRIANGLES have it, c its CORE, h 1, if it is "
-            + "HEAVY, otherwise 0.");
+        says("Letters: n the number of the VERTEX, d its DEGREE, t how many TRIANGLES have it, c its CORE, h 1, if it "
+            + "is HEAVY, otherwise 0.");
         RingCounts net = tail();
         due("0 by the bound of 3", 1, net.told(5));
         duePick(net, "n=0", bits(0));
@@ -565,8 +565,9 @@ public final class TextSentencesTest {
     // ---- BACK
 
     private static void back() {
-        says("BACK by n: the latest n CHANGES that may go back (or all, if these are fewer), the latest first, are undone "
-            + "by opposite CHANGES (an EDGE that went comes with the WORTH that it had); neither may go back then.");
+        says("BACK by n: the latest n CHANGES that may go back (or all, if these are fewer), the latest first, are "
+            + "undone by opposite CHANGES (an EDGE that went comes with the WORTH that it had); neither may go back "
+            + "then.");
         RingCounts net = net("+0,1=5;+0,2=6;-0,1;+0,1=7;+0,3=8");
         due("five may", 5, net.told(10));
         due("none asked", 0, net.back(0));

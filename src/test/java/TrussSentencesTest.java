@@ -484,8 +484,8 @@ public final class TrussSentencesTest {
     // ---- BROKEN, FEWEST
 
     private static void broken() {
-        says("BROKEN: as long as there are TRIANGLES, the EDGE with the greatest SUPPORT by EDGES left goes (of several "
-            + "the earliest); nothing of it stays.");
+        says("BROKEN: as long as there are TRIANGLES, the EDGE with the greatest SUPPORT by EDGES left goes (of "
+            + "several the earliest); nothing of it stays.");
         RingCounts wheel = wheel();
         // 0-1 goes, then 0-3, which has two yet, then 0-4.
         due("a wheel", 3, wheel.broken(0));
