@@ -627,6 +627,7 @@ public final class EdgeSentencesTest {
         for (int what = 0; what < two.length; what++) {
             due("two " + what, two[what], net.two(0, 1, what));
         }
+        due("none joins them", 0, net.two(0, 4, 3));
         due("no two, no what", -1, net.two(0, 0, 9));
         says("3 how many RINGS, 4 how many FOURS have it. NONE: u, v, what; STATE: there is none.");
         long[] edge = {2, 4, 0, 2, 1, -1};

@@ -249,6 +249,17 @@ public final class ListSentencesTest {
                 due("figure " + sort + " of " + v, figure, net.get(sort, v));
             }
         }
+        RingCounts cut = kite();
+        cut.list(4, 40);
+        for (int sort = 0; sort < 4; sort++) {
+            cut.lay(4, 0, sort);
+        }
+        Checks.batch(cut, "*0;*3");
+        for (int sort = 0; sort < 4; sort++) {
+            due("lay", 40, cut.lay(4, 0, sort));
+            due("figure of 0 as it has none", 0, cut.get(4, 0));
+            due("figure of 39 as it has none", 0, cut.get(4, 39));
+        }
         RingCounts most = Checks.whole(20);
         long[] each = {19, 171, 19, 19 * 18 * 17 / 2};
         for (int sort = 0; sort < 4; sort++) {

@@ -392,6 +392,12 @@ public final class TextSentencesTest {
         duePick(most, "t=406", (1L << 30) - 1);
         duePick(most, "t>406", 0);
         duePick(most, "d=29&c=29", (1L << 30) - 1);
+        net.cut(0, 1);
+        net.cut(38, 39);
+        duePick(net, "c>0", bits(0, 1, 2, 3));
+        duePick(net, "d>0", bits(0, 1, 2, 3));
+        duePick(net, "t>0", 0);
+        duePick(net, "h>0", bits(0));
     }
 
     private static void signs() {

@@ -325,6 +325,8 @@ public final class TrussSentencesTest {
         due("degree 39", 39, star.of(0, 0));
         due("core 1", 1, star.of(0, 3));
         due("core 1", 1, star.of(39, 3));
+        star.cut(0, 39);
+        due("core 1 is none, as its edge is gone", 0, star.of(39, 3));
         RingCounts round = new RingCounts();
         for (int v = 0; v < 40; v++) {
             round.add(v, (v + 1) % 40, 1);
