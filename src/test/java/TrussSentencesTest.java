@@ -443,6 +443,12 @@ public final class TrussSentencesTest {
             net.cut(21, 22);
             due("without it", sign > 0 ? Long.MAX_VALUE - 1 : Long.MIN_VALUE + 1, net.value());
         }
+        RingCounts net = net("+0,1=2;+0,2=3;+1,2=5;+0,3=7;+1,3=11;+2,3=13");
+        due("four of four", 30 + 154 + 273 + 715, net.value());
+        for (int[] two : new int[][] {{1, 3, 30 + 273}, {0, 2, 0}, {0, 1, 0}}) {
+            net.cut(two[0], two[1]);
+            due("an edge that is gone is in none", two[2], net.value());
+        }
     }
 
     private static void valueInOrder() {
